@@ -1081,10 +1081,11 @@ public final class GrindMill {
             at = 0;
             fault = NONE;
             house.startAnew(FIRST_HELD);
+            passBlanks();
             readFirstItem(house);
             int items = 1;
             // An item has bytes of its own, so there are fewer items than bytes.
-            while (items < LIMIT && fault == NONE && !atEnd()) {
+            while (items < LIMIT && fault == NONE && at < length) {
                 readLaterItem(house);
                 items++;
             }
@@ -1092,7 +1093,6 @@ public final class GrindMill {
         }
 
         private void readFirstItem(House house) {
-            passBlanks();
             int start = at;
             passLetters();
             if (isNamed(start, "mill")) {
@@ -1104,7 +1104,6 @@ public final class GrindMill {
         }
 
         private void readLaterItem(House house) {
-            passBlanks();
             int start = at;
             passLetters();
             if (isNamed(start, "goods")) {
@@ -1150,18 +1149,15 @@ public final class GrindMill {
             return number;
         }
 
+        /** Blanks behind an item go with it, so that what follows begins an item or is the end. */
         private void readItemsEnd() {
             passBlanks();
             if (at < length && bytes[at] == ';') {
                 at++;
+                passBlanks();
             } else {
                 failAt(at);
             }
-        }
-
-        private boolean atEnd() {
-            passBlanks();
-            return at >= length;
         }
 
         private void passBlanks() {
