@@ -43,6 +43,15 @@ final class Check {
         }
     }
 
+    /** As digest mixes. */
+    static long mixed(long... values) {
+        long h = 1231;
+        for (long v : values) {
+            h = 31 * h + v;
+        }
+        return h;
+    }
+
     static int read(GrindMill x, String text) {
         type(x, text);
         return x.read();

@@ -146,23 +146,15 @@ public final class StateTest {
         CHECK.due("BAD", x.status(0), 3);
     }
 
-    private static long mixed(long... values) {
-        long h = 1231;
-        for (long v : values) {
-            h = 31 * h + v;
-        }
-        return h;
-    }
-
     private static void digestOfNew() {
         CHECK.due("digest of a new one", new GrindMill().digest(),
-            mixed(0, 0, 0, 0, 0, 0, 0, 0, 0, 0, 60, 0, -1, 0, 1));
+            Check.mixed(0, 0, 0, 0, 0, 0, 0, 0, 0, 0, 60, 0, -1, 0, 1));
     }
 
     private static void digest() {
         GrindMill x = MillTest.busy();
         // 9 by 7/10 and by 49/100.
-        CHECK.due("digest", x.digest(), mixed(3, 7, 47, 13, 120, 1, 1, 4, 4, 6, 50, 9, 0,
+        CHECK.due("digest", x.digest(), Check.mixed(3, 7, 47, 13, 120, 1, 1, 4, 4, 6, 50, 9, 0,
             0, 9, 40, 47, 3, 1, 5, 10, 0, 0, 3, 2, 20, 0, 0, 3, 2, 1, 4, 5, 6, 1071, 100));
         CHECK.due("digest again", x.digest(), x.digest());
         CHECK.due("it refuses nothing", x.status(0), 1);
