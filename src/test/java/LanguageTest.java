@@ -59,6 +59,7 @@ public final class LanguageTest {
     /** A test that finds no fault says little, unless it finds those that are there. */
     private static void eachRuleIsSeen() throws IOException {
         seen("2 lambda", "Runnable r() { return () -> { }; }");
+        seen("2 method reference", "Comparable<String> r(String s) { return s::compareTo; }");
         seen("2 local class", "void m() { class Inside { } }");
         seen("2 inner class", "class Inside { }");
         seen("3 two dimensions", "String[][] rows;");
